@@ -1116,6 +1116,19 @@ public final class Rankwise {
             return true;
         }
 
+        /** Whether its nodes, operands ahead of their operators, are those that stand in line. */
+        boolean hasLine(Tree line) {
+            if (count != line.count) {
+                return false;
+            }
+            for (int place = 0; place < count; place++) {
+                if (!sameNode(nodeAt(place), line, place)) {
+                    return false;
+                }
+            }
+            return true;
+        }
+
         boolean sameParts(int part, int other) {
             int nodes = sizes[part];
             if (nodes != sizes[other]) {
@@ -1454,7 +1467,6 @@ public final class Rankwise {
         private int operands;
         /** The nodes that were read, operands ahead of their operators. */
         final Tree line = new Tree();
-        private final Tree made = new Tree();
 
         Reader(Table operators) {
             table = operators;
@@ -1683,21 +1695,13 @@ public final class Rankwise {
         }
 
         boolean stacksGive(Tree tree) {
-            if (byStacks() != NONE || line.count != tree.count) {
-                return false;
-            }
-            made.turn(line);
-            return made.sameAs(tree);
+            return byStacks() == NONE && tree.hasLine(line);
         }
 
         boolean climbingGives(Tree tree) {
             next = 0;
             line.clear();
-            if (!climb(1, 0) || nextWord() < count || line.count != tree.count) {
-                return false;
-            }
-            made.turn(line);
-            return made.sameAs(tree);
+            return climb(1, 0) && nextWord() >= count && tree.hasLine(line);
         }
 
         private int takeWord() {
