@@ -136,7 +136,7 @@ public final class Rankwise {
     // ---- operators
 
     public int tell(char sign, int fix, int rank, int side, int meaning) throws IllegalArgumentException, IllegalStateException {
-        if (Table.placeOf(sign) == NONE || !Table.isFix(fix) || !Table.fits(fix, rank, side, meaning)) {
+        if (!desk.table.isSign(sign) || !Table.isFix(fix) || !Table.fits(fix, rank, side, meaning)) {
             throw new IllegalArgumentException("there is no such operator");
         }
         if (desk.table.clashes(sign, fix, rank, side)) {
@@ -506,7 +506,7 @@ public final class Rankwise {
 
         /** Becomes as far from 0 as another one, which is not 0, on its own side. */
         void copySize(Whole from) {
-            size = Math.min(from.size, limbs.length);
+            size = from.size < limbs.length ? from.size : limbs.length;
             for (int i = 0; i < size; i++) {
                 limbs[i] = from.limbs[i];
             }
@@ -666,7 +666,7 @@ public final class Rankwise {
                 return 0;
             }
             long pair = upper << BITS | middle;
-            long digit = Math.min(pair / first, MASK);
+            long digit = pair / first < MASK ? pair / first : MASK;
             long rest = pair - digit * first;
             for (int turn = 0; turn < 3 && rest <= MASK && digit * second > (rest << BITS | lower); turn++) {
                 digit--;
@@ -1153,11 +1153,16 @@ public final class Rankwise {
         /** By rising numbers, so that the least sign with a meaning is the first one found. */
         private static final String SIGNS = "!#%&*+-/<=>?@^|~";
         private static final int COUNT = 16;
+        /** Where each character is among the signs, or NONE. */
+        private final int[] places = new int[128];
         private final int[] ranks = new int[3 * COUNT];
         private final int[] sides = new int[3 * COUNT];
         private final int[] meanings = new int[3 * COUNT];
 
         Table() {
+            for (int character = 0; character < places.length; character++) {
+                places[character] = SIGNS.indexOf((char) character);
+            }
             begin('|', BETWEEN, 1, LEFT, OR);
             begin('&', BETWEEN, 2, LEFT, AND);
             begin('<', BETWEEN, 3, NEITHER, LESS);
@@ -1186,8 +1191,8 @@ public final class Rankwise {
             }
         }
 
-        static int placeOf(int sign) {
-            return SIGNS.indexOf((char) sign);
+        boolean isSign(int sign) {
+            return slot(sign, BEFORE) >= 0;
         }
 
         static boolean isFix(int fix) {
@@ -1195,8 +1200,8 @@ public final class Rankwise {
         }
 
         /** Where an operator stands in the rows; NONE for what can be none. */
-        static int slot(int sign, int fix) {
-            int place = SIGNS.indexOf((char) sign);
+        int slot(int sign, int fix) {
+            int place = sign >= 0 && sign < places.length ? places[sign] : NONE;
             return place < 0 || fix < BEFORE || fix > BETWEEN ? NONE : fix * COUNT + place;
         }
 
@@ -1309,7 +1314,7 @@ public final class Rankwise {
         }
 
         void tellOperator(int sign, int fix, int rank, int side, int meaning) {
-            int slot = Table.slot(sign, fix);
+            int slot = table.slot(sign, fix);
             if (slot < 0) {
                 return;
             }
@@ -1512,7 +1517,7 @@ public final class Rankwise {
                 kind = CLOSE;
             } else if (character == ',') {
                 kind = COMMA;
-            } else if (Table.placeOf(character) >= 0) {
+            } else if (table.isSign(character)) {
                 kind = OPERATOR;
             }
             addWord(kind, character, at);

@@ -25,7 +25,7 @@ public final class DifferentialTest {
 
     public static void main(String[] args) {
         int first = args.length > 0 ? Integer.parseInt(args[0]) : 0;
-        int runs = args.length > 1 ? Integer.parseInt(args[1]) : 600;
+        int runs = args.length > 1 ? Integer.parseInt(args[1]) : 2000;
         int failed = 0;
         for (int run = first; run < first + runs && failed < 3; run++) {
             DifferentialTest test = new DifferentialTest(run);

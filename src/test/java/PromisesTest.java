@@ -400,6 +400,7 @@ public final class PromisesTest {
         thrown("print", INDEX, () -> desk.print(-1));
         due("what was printed stays", printed(desk, 3), "x+1");
         deepPrints();
+        mostBrackets();
     }
 
     /** Trees of 80 nodes, as deep as they can be, and long ones. */
@@ -429,6 +430,27 @@ public final class PromisesTest {
                 due("a deep " + shape, desk.isSame(put(desk, printed(desk, length)), grown), true);
             }
         }
+    }
+
+    /** Brackets within brackets: as many levels of a text as 80 nodes can need. */
+    private static void mostBrackets() {
+        Rankwise desk = new Rankwise();
+        String before = "+*/%&";
+        String behind = "!@#~?";
+        for (int k = 0; k < 5; k++) {
+            desk.tell(before.charAt(k), 0, 9 - 2 * k, 0, 11);
+            desk.tell(behind.charAt(k), 1, 9 - 2 * k, 0, 13);
+        }
+        String text = "+((*((/((%((&(x?))~))#))@))!)";
+        int cycle = put(desk, text);
+        due("all brackets", show(desk, cycle), text);
+        int grown = desk.graft(cycle, 'x', cycle);
+        grown = desk.graft(grown, 'x', grown);
+        grown = desk.graft(desk.graft(cycle, 'x', grown), 'x', desk.graft(cycle, 'x', desk.part(cycle, 1)));
+        due("80 nodes at most", desk.node(desk.part(grown, 0), 0, 5), 70);
+        grown = desk.graft(desk.part(cycle, 1), 'x', grown);
+        due("79 nodes", desk.node(grown, 0, 5), 79);
+        due("audit", desk.audit(0, grown), true);
     }
 
     private static void postfix() {
@@ -467,7 +489,7 @@ public final class PromisesTest {
     private static void evaluate() {
         Rankwise desk = new Rankwise();
         String[] values = {"1/2+1/3", "5/6", "1/3-1/2", "-1/6", "2/4*6", "3", "1/(0-2)", "-1/2", "7%3", "1", "-7%3", "2",
-            "7%-3", "1", "-6%-3", "0", "2^10", "1024", "2^-2", "1/4", "(-2/3)^-3", "-27/8", "0^0", "1", "0^5", "0", "1^64", "1",
+            "7%-3", "1", "-6%-3", "0", "2^10", "1024", "2^-2", "1/4", "2^-64*2^64", "1", "(-2/3)^-3", "-27/8", "0^0", "1", "0^5", "0", "1^64", "1",
             "1/2<2/3", "1", "2/3<1/2", "0", "1/2=2/4", "1", "1>1", "0", "3>-4", "1", "2&3", "1", "0&3", "0", "0|-1", "1",
             "0|0", "0", "-(1/2)", "-1/2", "~0", "1", "~(1/2)", "0", "0!", "1", "5!", "120",
             "30!", "265252859812191058636308480000000", "999999999+1", "1000000000"};
@@ -511,6 +533,7 @@ public final class PromisesTest {
     private static void lazyCalls(Rankwise desk) {
         String[] values = {"i(1,2,x)", "2", "i(0,x,3)", "3", "i(x,1,2)", "fault 4", "i(1,2)", "fault 5", "i(1/0)", "fault 5",
             "i(1,2,3,4)", "fault 5", "s(k,1,4,k*k)", "30", "s(k,-1,1,k)", "0", "s(k,3,2,x)", "0", "s(k,1,30,1)", "30",
+            "s(k,1,4,k/4)", "5/2", "s(k,1,4,k/4)=5/2", "1",
             "s(k,1,31,1)", "fault 3", "s(k,1/2,31,1)", "fault 2", "s(k,1,3/2,1)", "fault 2", "s(k,1,31/2,1)", "fault 2",
             "s(1,1,2,1)", "fault 10", "s(k+1,1,2,1)", "fault 10", "s(1,x,2,1)", "fault 10", "s(k,x,2,1)", "fault 4",
             "s(k,1,2)", "fault 5", "s(1,2,3)", "fault 5", "s(k,1,3,s(k,k,3,k))", "14", "s(k,1,2,k)+k", "fault 4",
@@ -539,6 +562,7 @@ public final class PromisesTest {
         desk.addCase('m', -1, put(desk, "i(x<1,y,m(x-1))"));
         due("arguments are not within", value(desk, "m(m(11)-31)"), "42");
         due("a sum around", value(desk, "s(y,1,2,f(0))"), "84");
+        due("a sum around, and its name behind a call", value(desk, "s(k,1,3,f(0)*k-f(k-k)+k)"), "132");
         due("a sum around and an argument", value(desk, "s(x,1,2,f(x-x))"), "84");
         desk.addCase('f', put(desk, "x=1/2"), put(desk, "1"));
         due("two cases", value(desk, "f(1/2)"), "fault 7");
@@ -548,6 +572,9 @@ public final class PromisesTest {
         desk.addCase('g', -1, put(desk, "x-y-z"));
         due("three parameters", value(desk, "g(9,2,3)"), "4");
         due("a sum within", value(desk, "g(x,s(x,1,2,x),0)"), "-8");
+        desk.define('n', 1);
+        desk.addCase('n', -1, put(desk, "x*10-y"));
+        due("one parameter alone", value(desk, "n(5)"), "8");
         desk.define('h', 2);
         desk.addCase('h', -1, put(desk, "s(x,1,2,x*y)+x"));
         due("a sum's name is a parameter", value(desk, "h(10,3)"), "19");
@@ -729,7 +756,7 @@ public final class PromisesTest {
             "999999999+1", "none", "999999999*999999999", "none", "31622^2", "1 0 999950884", "31623^2", "none", "7%2", "none",
             "x+0", "2 0 x", "0+x", "2 0 x", "x-0", "2 0 x", "0-x", "none", "x*1", "3 0 x", "1*x", "3 0 x", "x/1", "3 0 x", "1/x", "none",
             "x^1", "3 0 x", "1^x", "none", "x*0", "4 0 0", "0*x", "4 0 0", "0/x", "none", "x-x", "5 0 0", "(a+b)/(a+b)", "5 0 1",
-            "(a+b)-(b+a)", "none", "--x", "6 0 x", "-~x", "none", "2*x+3*x", "7 0 5*x", "2*x+3*y", "none", "x*2+x*3", "none",
+            "(a+b)-(b+a)", "none", "--x", "6 0 x", "-~x", "none", "2*x+3*x", "7 0 5*x", "2*x+3*y", "none", "x*2+x*3", "none", "x*y+2*y", "none", "2*y+x*y", "none",
             "999999998*x+1*x", "3 4 999999998*x+x", "999999998*x+2*x", "none", "999999997*x+2*x", "7 0 999999999*x", "2*(x-y)+5*(x-y)", "7 0 7*(x-y)",
             "(1+2)*(3+4)", "1 1 3*(3+4)", "f(x+0,y)", "2 1 f(x,y)", "s(k*1,1,2,k)", "3 1 s(k,1,2,k)", "x+y", "none", "x", "none",
             "a-(b+0)", "2 2 a-b", "x-x+0", "5 1 0+0", "1+2<3", "1 1 3<3", "--(1+1)", "1 2 --2", "(x+0)!", "2 1 x!"};
@@ -830,7 +857,7 @@ public final class PromisesTest {
         String[] texts = {"7", "7", "x", "1 0", "a", "2/3", "y", "none", "x+1", "1 1", "1-x", "-1 1", "-x", "-1 0", "x*x-x*x", "0",
             "(x+1)*(x-1)", "1 0 -1", "(x+1)^3", "1 3 3 1", "(2*x)^0", "1", "0^0", "1", "x/2+a*x", "7/6 0", "x/(1+1)", "1/2 0",
             "x/(x-x+2)", "1/2 0", "x/0", "none", "x/(x-x)", "none", "1/x", "none", "2^x", "none", "x^(1+1)", "none", "x^8",
-            "1 0 0 0 0 0 0 0 0", "x^9", "none", "x^4*x^5", "none", "x^8*x", "none", "0*x^8*x", "0", "(x^8*x)*0", "none", "(x^2)^5", "none",
+            "1 0 0 0 0 0 0 0 0", "x^9", "none", "x^4*x^5", "none", "x^8*x", "none", "0*x^8*x", "0", "(x^8*x)*0", "none", "(x^2)^5", "none", "(x^3)^3", "none",
             "(x^2)^4", "1 0 0 0 0 0 0 0 0", "x^8-x^8+3", "3", "1^9", "none", "2^8", "256", "f(x)", "none", "i(1,x,x)", "none", "x%2", "none",
             "x<2", "none", "~x", "none", "x!", "none", "x!*0", "none", "b*x", "803469022129495137770981046170581301261101496891396417650688 0", "b*2", "none",
             "b*x*2", "none", "b*2-b", "none", "b/2*2-b+x", "1 0", "(x/b)^2", "none", "(x/3+1/2)^2", "1/9 1/3 1/4"};
