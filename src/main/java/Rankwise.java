@@ -41,12 +41,12 @@ public final class Rankwise {
         Arithmetic arithmetic = new Arithmetic();
         typed = new char[MOST_TYPED];
         desk = new Desk();
-        reader = new Reader(desk.table);
+        reader = new Reader(desk);
         printer = new Printer(reader);
         proof = new Printer(reader);
         machine = new Machine(desk, arithmetic);
         slopes = new Slopes(machine, arithmetic);
-        rewriter = new Rewriter(desk.table);
+        rewriter = new Rewriter(desk);
         gatherer = new Gatherer(desk, arithmetic);
         latest = new Fraction(Whole.NARROW);
         compared = new Fraction(Whole.NARROW);
@@ -136,28 +136,28 @@ public final class Rankwise {
     // ---- operators
 
     public int tell(char sign, int fix, int rank, int side, int meaning) throws IllegalArgumentException, IllegalStateException {
-        if (!desk.table.isSign(sign) || !Table.isFix(fix) || !Table.fits(fix, rank, side, meaning)) {
+        if (!desk.isSign(sign) || !Desk.isFix(fix) || !Desk.isOperator(fix, rank, side, meaning)) {
             throw new IllegalArgumentException("there is no such operator");
         }
-        if (desk.table.clashes(sign, fix, rank, side)) {
+        if (desk.clashes(sign, fix, rank, side)) {
             throw new IllegalStateException("it does not agree with the operators that are told");
         }
-        int before = desk.table.rank(sign, fix);
+        int before = desk.rank(sign, fix);
         desk.tellOperator(sign, fix, rank, side, meaning);
         return before;
     }
 
     public int told(char sign, int fix, int what) throws IllegalArgumentException {
-        if (!Table.isFix(fix) || what < 0 || what > 2) {
+        if (!Desk.isFix(fix) || what < 0 || what > 2) {
             throw new IllegalArgumentException("no such fix, or what is not 0 to 2");
         }
-        if (desk.table.rank(sign, fix) == 0) {
+        if (desk.rank(sign, fix) == 0) {
             return NONE;
         }
         if (what == 0) {
-            return desk.table.rank(sign, fix);
+            return desk.rank(sign, fix);
         }
-        return what == 1 ? desk.table.side(sign, fix) : desk.table.meaning(sign, fix);
+        return what == 1 ? desk.side(sign, fix) : desk.meaning(sign, fix);
     }
 
     // ---- printing
@@ -323,7 +323,7 @@ public final class Rankwise {
     public int solve(int tree, char name) throws IndexOutOfBoundsException, IllegalArgumentException {
         Tree equation = treeAt(tree);
         needName(name);
-        if (equation.kinds[0] != OPERATOR || desk.table.meaning(equation.values[0], equation.fixes[0]) != EQUAL) {
+        if (equation.kinds[0] != OPERATOR || desk.meaning(equation.values[0], equation.fixes[0]) != EQUAL) {
             return NONE;
         }
         int degree = gatherer.collect(equation, equation.child(0, 0), name);
@@ -1148,18 +1148,56 @@ public final class Rankwise {
         }
     }
 
-    /** The operators that are told; a rank of 0 says that there is none. */
-    private static final class Table {
+    /**
+     * What is undone: the shelf, the operators, the names' values and the functions, with the latest changes. A
+     * function's cases are numbers of trees on the shelf: a tree leaves it only when all later changes are undone, so
+     * those that a case needs are always there.
+     */
+    private static final class Desk {
+        private static final int MOST_TREES = 30;
+        private static final int MOST_CHANGES = 20;
+        private static final int LETTERS = 26;
         /** By rising numbers, so that the least sign with a meaning is the first one found. */
         private static final String SIGNS = "!#%&*+-/<=>?@^|~";
-        private static final int COUNT = 16;
+        private static final int MOST_SIGNS = 16;
+        /** A function's row: parameters (0 for no function), how many cases, their conditions, their values. */
+        private static final int FIRST_CONDITION = 2, FIRST_VALUE = FIRST_CONDITION + MOST_CASES, ROW = FIRST_VALUE + MOST_CASES;
+
         /** Where each character is among the signs, or NONE. */
         private final int[] places = new int[128];
-        private final int[] ranks = new int[3 * COUNT];
-        private final int[] sides = new int[3 * COUNT];
-        private final int[] meanings = new int[3 * COUNT];
+        /** The operators by fix and sign; a rank of 0 says that there is none. */
+        private final int[] ranks = new int[3 * MOST_SIGNS];
+        private final int[] sides = new int[3 * MOST_SIGNS];
+        private final int[] meanings = new int[3 * MOST_SIGNS];
 
-        Table() {
+        final Tree[] shelf = new Tree[MOST_TREES];
+        int trees;
+        final Fraction[] names = new Fraction[LETTERS];
+        final boolean[] known = new boolean[LETTERS];
+        private final int[][] functions = new int[LETTERS][ROW];
+
+        /** A ring of changes: what each one was, what it changed, and what was there before. */
+        private final int[] changeKinds = new int[MOST_CHANGES];
+        private final int[] changeKeys = new int[MOST_CHANGES];
+        private final int[][] changeRows = new int[MOST_CHANGES][ROW];
+        private final Fraction[] changeValues = new Fraction[MOST_CHANGES];
+        private int firstChange;
+        private int changes;
+
+        Desk() {
+            beginOperators();
+            for (int i = 0; i < MOST_TREES; i++) {
+                shelf[i] = new Tree();
+            }
+            for (int i = 0; i < LETTERS; i++) {
+                names[i] = new Fraction(Whole.NARROW);
+            }
+            for (int i = 0; i < MOST_CHANGES; i++) {
+                changeValues[i] = new Fraction(Whole.NARROW);
+            }
+        }
+
+        private void beginOperators() {
             for (int character = 0; character < places.length; character++) {
                 places[character] = SIGNS.indexOf((char) character);
             }
@@ -1180,10 +1218,10 @@ public final class Rankwise {
         }
 
         private void begin(char sign, int fix, int rank, int side, int meaning) {
-            put(slot(sign, fix), rank, side, meaning);
+            putOperator(slot(sign, fix), rank, side, meaning);
         }
 
-        void put(int slot, int rank, int side, int meaning) {
+        void putOperator(int slot, int rank, int side, int meaning) {
             if (slot >= 0 && slot < ranks.length) {
                 ranks[slot] = rank;
                 sides[slot] = side;
@@ -1202,10 +1240,10 @@ public final class Rankwise {
         /** Where an operator stands in the rows; NONE for what can be none. */
         int slot(int sign, int fix) {
             int place = sign >= 0 && sign < places.length ? places[sign] : NONE;
-            return place < 0 || fix < BEFORE || fix > BETWEEN ? NONE : fix * COUNT + place;
+            return place < 0 || fix < BEFORE || fix > BETWEEN ? NONE : fix * MOST_SIGNS + place;
         }
 
-        static boolean fits(int fix, int rank, int side, int meaning) {
+        static boolean isOperator(int fix, int rank, int side, int meaning) {
             if (rank < 1 || rank > 9 || side < LEFT || side > NEITHER || (fix != BETWEEN && side != LEFT)) {
                 return false;
             }
@@ -1243,7 +1281,7 @@ public final class Rankwise {
                 return true;
             }
             int own = slot(sign, BETWEEN);
-            for (int slot = BETWEEN * COUNT; slot < ranks.length; slot++) {
+            for (int slot = BETWEEN * MOST_SIGNS; slot < ranks.length; slot++) {
                 if (slot != own && ranks[slot] == rank && sides[slot] != side) {
                     return true;
                 }
@@ -1253,53 +1291,13 @@ public final class Rankwise {
 
         /** The least sign BETWEEN that has a meaning, or NONE. */
         int leastWith(int meaning) {
-            for (int place = 0; place < COUNT; place++) {
-                int slot = BETWEEN * COUNT + place;
+            for (int place = 0; place < MOST_SIGNS; place++) {
+                int slot = BETWEEN * MOST_SIGNS + place;
                 if (ranks[slot] > 0 && meanings[slot] == meaning) {
                     return SIGNS.charAt(place);
                 }
             }
             return NONE;
-        }
-    }
-
-    /**
-     * What is undone: the shelf, the operators, the names' values and the functions, with the latest changes. A
-     * function's cases are numbers of trees on the shelf: a tree leaves it only when all later changes are undone, so
-     * those that a case needs are always there.
-     */
-    private static final class Desk {
-        private static final int MOST_TREES = 30;
-        private static final int MOST_CHANGES = 20;
-        private static final int LETTERS = 26;
-        /** A function's row: parameters (0 for no function), how many cases, their conditions, their values. */
-        private static final int FIRST_CONDITION = 2, FIRST_VALUE = FIRST_CONDITION + MOST_CASES, ROW = FIRST_VALUE + MOST_CASES;
-
-        final Table table = new Table();
-        final Tree[] shelf = new Tree[MOST_TREES];
-        int trees;
-        final Fraction[] names = new Fraction[LETTERS];
-        final boolean[] known = new boolean[LETTERS];
-        private final int[][] functions = new int[LETTERS][ROW];
-
-        /** A ring of changes: what each one was, what it changed, and what was there before. */
-        private final int[] changeKinds = new int[MOST_CHANGES];
-        private final int[] changeKeys = new int[MOST_CHANGES];
-        private final int[][] changeRows = new int[MOST_CHANGES][ROW];
-        private final Fraction[] changeValues = new Fraction[MOST_CHANGES];
-        private int firstChange;
-        private int changes;
-
-        Desk() {
-            for (int i = 0; i < MOST_TREES; i++) {
-                shelf[i] = new Tree();
-            }
-            for (int i = 0; i < LETTERS; i++) {
-                names[i] = new Fraction(Whole.NARROW);
-            }
-            for (int i = 0; i < MOST_CHANGES; i++) {
-                changeValues[i] = new Fraction(Whole.NARROW);
-            }
         }
 
         /** Puts a copy on the shelf, which has room, and tells its number. */
@@ -1314,15 +1312,15 @@ public final class Rankwise {
         }
 
         void tellOperator(int sign, int fix, int rank, int side, int meaning) {
-            int slot = table.slot(sign, fix);
+            int slot = slot(sign, fix);
             if (slot < 0) {
                 return;
             }
             int[] row = changeRows[note(TABLE, slot)];
-            row[0] = table.ranks[slot];
-            row[1] = table.sides[slot];
-            row[2] = table.meanings[slot];
-            table.put(slot, rank, side, meaning);
+            row[0] = ranks[slot];
+            row[1] = sides[slot];
+            row[2] = meanings[slot];
+            putOperator(slot, rank, side, meaning);
         }
 
         void giveValue(int letter, Fraction value) {
@@ -1420,7 +1418,7 @@ public final class Rankwise {
                     trees--;
                     break;
                 case TABLE:
-                    table.put(key, row[0], row[1], row[2]);
+                    putOperator(key, row[0], row[1], row[2]);
                     break;
                 case MEMORY:
                     known[key] = row[0] == 1;
@@ -1446,7 +1444,7 @@ public final class Rankwise {
         /** Texts of at most 80 nodes need some 120 levels; each is at most two calls. */
         private static final int DEEPEST = 140;
 
-        private final Table table;
+        private final Desk desk;
         private final int[] kinds = new int[MOST_WORDS];
         private final int[] values = new int[MOST_WORDS];
         private final int[] places = new int[MOST_WORDS];
@@ -1473,8 +1471,8 @@ public final class Rankwise {
         /** The nodes that were read, operands ahead of their operators. */
         final Tree line = new Tree();
 
-        Reader(Table operators) {
-            table = operators;
+        Reader(Desk operators) {
+            desk = operators;
         }
 
         void startWords() {
@@ -1517,7 +1515,7 @@ public final class Rankwise {
                 kind = CLOSE;
             } else if (character == ',') {
                 kind = COMMA;
-            } else if (table.isSign(character)) {
+            } else if (desk.isSign(character)) {
                 kind = OPERATOR;
             }
             addWord(kind, character, at);
@@ -1603,7 +1601,7 @@ public final class Rankwise {
                 case OPEN:
                     return hold(OPEN, value, NONE, 0, 0);
                 case OPERATOR:
-                    int rank = table.rank(value, BEFORE);
+                    int rank = desk.rank(value, BEFORE);
                     return rank > 0 && hold(OPERATOR, value, BEFORE, rank + 1, 0);
                 default:
                     return false;
@@ -1639,8 +1637,8 @@ public final class Rankwise {
 
         /** Takes a sign behind an operand, which ends all operators whose texts it can't be in. */
         private boolean takeSign(int sign) {
-            int fix = table.rank(sign, BEHIND) > 0 ? BEHIND : BETWEEN;
-            int rank = table.rank(sign, fix);
+            int fix = desk.rank(sign, BEHIND) > 0 ? BEHIND : BETWEEN;
+            int rank = desk.rank(sign, fix);
             if (rank == 0) {
                 return false;
             }
@@ -1656,7 +1654,7 @@ public final class Rankwise {
             if (bares[top] == rank) {
                 return false;
             }
-            int side = table.side(sign, BETWEEN);
+            int side = desk.side(sign, BETWEEN);
             waiting = true;
             return hold(OPERATOR, sign, BETWEEN, side == RIGHT ? rank : rank + 1, side == NEITHER ? rank : 0);
         }
@@ -1734,7 +1732,7 @@ public final class Rankwise {
                     return false;
                 }
             } else {
-                int rank = kind == OPERATOR ? table.rank(value, BEFORE) : 0;
+                int rank = kind == OPERATOR ? desk.rank(value, BEFORE) : 0;
                 if (rank == 0 || !climb(rank + 1, depth + 1)) {
                     return false;
                 }
@@ -1743,13 +1741,13 @@ public final class Rankwise {
             int bare = 0;
             for (int turn = 0; turn < count && kindAt(nextWord()) == OPERATOR; turn++) {
                 int sign = values[nextWord()];
-                int fix = table.rank(sign, BEHIND) > 0 ? BEHIND : BETWEEN;
-                int rank = table.rank(sign, fix);
+                int fix = desk.rank(sign, BEHIND) > 0 ? BEHIND : BETWEEN;
+                int rank = desk.rank(sign, fix);
                 if (rank < least) {
                     return true;
                 }
                 takeWord();
-                int side = table.side(sign, fix);
+                int side = desk.side(sign, fix);
                 if (fix == BETWEEN && (bare == rank || !climb(side == RIGHT ? rank : rank + 1, depth + 1))) {
                     return false;
                 }
@@ -2109,7 +2107,7 @@ public final class Rankwise {
                 case CALL:
                     return openCall(value - 'a', tree.arities[node]);
                 default:
-                    int meaning = desk.table.meaning(value, tree.fixes[node]);
+                    int meaning = desk.meaning(value, tree.fixes[node]);
                     return meaning >= FUNCTION ? openCall(meaning - FUNCTION, tree.arities[node]) : operate(meaning);
             }
         }
@@ -2139,7 +2137,7 @@ public final class Rankwise {
         }
 
         int meaningOf(Tree tree, int node) {
-            return tree.kinds[node] == OPERATOR ? desk.table.meaning(tree.values[node], tree.fixes[node]) : NONE;
+            return tree.kinds[node] == OPERATOR ? desk.meaning(tree.values[node], tree.fixes[node]) : NONE;
         }
 
         private int operate(int meaning) {
@@ -2498,18 +2496,18 @@ public final class Rankwise {
     private static final class Rewriter {
         private static final int GREATEST = 999999999;
         private static final int MOST_EXPONENT = 64;
-        private final Table table;
+        private final Desk desk;
         /** Where the latest rule was applied, by the number that the node had before. */
         int changedNode;
         /** The latest derivative. */
         final Tree made = new Tree();
 
-        Rewriter(Table operators) {
-            table = operators;
+        Rewriter(Desk operators) {
+            desk = operators;
         }
 
         private int meaningOf(Tree tree, int node) {
-            return tree.kinds[node] == OPERATOR ? table.meaning(tree.values[node], tree.fixes[node]) : NONE;
+            return tree.kinds[node] == OPERATOR ? desk.meaning(tree.values[node], tree.fixes[node]) : NONE;
         }
 
         /** Makes a tree simpler by one step; tells the rule, 0 if none fits. */
@@ -2694,7 +2692,7 @@ public final class Rankwise {
             if (meaningOf(tree, node) == meaning) {
                 return made.addNode(tree, node);
             }
-            int sign = table.leastWith(meaning);
+            int sign = desk.leastWith(meaning);
             return sign != NONE && made.add(OPERATOR, sign, BETWEEN, 2);
         }
     }
@@ -2755,7 +2753,7 @@ public final class Rankwise {
             if (tree.kinds[node] != OPERATOR) {
                 return addLeaf(tree, node, name);
             }
-            int meaning = desk.table.meaning(tree.values[node], tree.fixes[node]);
+            int meaning = desk.meaning(tree.values[node], tree.fixes[node]);
             if (meaning == NEGATE) {
                 return negate(height - 1);
             }
