@@ -2,8 +2,8 @@ import java.math.BigInteger;
 import java.util.Random;
 
 /**
- * Remainders and lowest terms of whole numbers that are hard to divide (runs of ones and zeros, at which guesses of
- * digits go wrong), held against BigInteger.
+ * Remainders, lowest terms and quotients of whole numbers that are hard to divide (runs of ones and zeros, at which
+ * guesses of digits go wrong), held against BigInteger.
  */
 public final class DivisionTest {
     private static final int RUNS = 6000;
@@ -17,7 +17,7 @@ public final class DivisionTest {
         DivisionTest test = new DivisionTest();
         int wrong = 0;
         for (int run = 0; run < RUNS && wrong < 5; run++) {
-            wrong += test.divide() ? 0 : 1;
+            wrong += test.divide() && test.shorten() ? 0 : 1;
         }
         System.out.println(RUNS + " divisions, " + wrong + " wrong");
         if (wrong > 0) {
@@ -65,6 +65,36 @@ public final class DivisionTest {
             System.out.println(left + " and " + text + ": " + (right ? "" : "remainder ") + (lowest ? "" : "lowest terms"));
         }
         return right && lowest;
+    }
+
+    /** A fraction whose parts have a great divisor in common, so that their quotients by it are wanted. */
+    private boolean shorten() {
+        int most = 31 + random.nextInt(130);
+        number(most);
+        String divisor = text;
+        BigInteger common = value;
+        number(1 + random.nextInt(199 - most));
+        String factor = text;
+        BigInteger a = value;
+        number(1 + random.nextInt(199 - most));
+        BigInteger b = value;
+        if (common.signum() == 0 || b.signum() == 0 || divisor.length() > 60 || factor.length() > 60 || text.length() > 60) {
+            return true;
+        }
+        Rankwise desk = new Rankwise();
+        put(desk, "2^60");
+        desk.let('p', 0);
+        desk.let('c', put(desk, divisor));
+        desk.let('a', put(desk, factor));
+        desk.let('b', put(desk, text));
+        BigInteger shared = a.gcd(b);
+        shared = b.signum() < 0 ? shared.negate() : shared;
+        boolean right = desk.evaluate(put(desk, "a*c/(b*c)")) == 0
+            && answer(desk, 0).equals(a.divide(shared)) && answer(desk, 1).equals(b.divide(shared));
+        if (!right) {
+            System.out.println("a*c/(b*c) with c " + divisor + ", a " + factor + ", b " + text);
+        }
+        return right;
     }
 
     private static int put(Rankwise desk, String typed) {
